@@ -534,16 +534,6 @@ public final class FlushPlanner {
             isOn = other.isOn;
         }
 
-        void beginAnew() {
-            battery.discharge = 0;
-            rules.beginAnew();
-            devices.beginAnew();
-            cache.count = 0;
-            Arrays.fill(totals, 0);
-            time = 0;
-            isOn = true;
-        }
-
         int usableBlocks() {
             int set = 0;
             for (int k = 0; k < cache.count; k++) {
@@ -630,7 +620,7 @@ public final class FlushPlanner {
             threshold = other.threshold;
         }
 
-        void beginAnew() {
+        void setDefaults() {
             reserve = 0;
             slots = BLOCK_LIMIT;
             mode = MODE_STRICT;
@@ -652,13 +642,6 @@ public final class FlushPlanner {
                 seek[k] = other.seek[k];
                 writing[k] = other.writing[k];
                 isFailed[k] = other.isFailed[k];
-            }
-        }
-
-        void beginAnew() {
-            count = 0;
-            for (int k = 0; k < DEVICE_LIMIT; k++) {
-                isFailed[k] = false;
             }
         }
 
@@ -933,16 +916,20 @@ public final class FlushPlanner {
             }
         }
 
-        /** Reads the text into a state, which is of use only if no error is found. */
-        void readInto(State state) {
+        /**
+         * Reads the text into a draft, which is of use only if no error is found. Nothing else ever
+         * changes the draft, so that its time, blocks and totals are still those of a new state.
+         */
+        void readInto(State draft) {
             errorFound = 0;
             errorPlace = NONE;
             end = 0;
-            state.beginAnew();
+            draft.rules.setDefaults();
+            draft.devices.count = 0;
             readToken();
-            readBattery(state.battery);
-            readSettings(state.rules);
-            readDevices(state.devices);
+            readBattery(draft.battery);
+            readSettings(draft.rules);
+            readDevices(draft.devices);
             if (kind != END) {
                 refuse(ERROR_TOKEN);
             }

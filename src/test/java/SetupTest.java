@@ -45,6 +45,12 @@ public final class SetupTest {
         Checks.due("new wear: not yet", x.report(0), 100);
         x.advance(1);
         Checks.due("new wear", x.report(0), 99);
+        x.advance(1000);
+        Checks.due("no charge", x.report(1), 0);
+        Checks.due("no reserve", x.minutesToSafety(), 0);
+        x.setPower(true);
+        x.advance(1);
+        Checks.due("new rate of 10", x.report(1), 10);
     }
 
     private static void append() {
@@ -192,6 +198,9 @@ public final class SetupTest {
         error("battery 100 60 5 2 50 7;", 1, 22);
         error("batter 100 60 5 2 50;", 1, 0);
         error("batterys 100 60 5 2 50;", 1, 0);
+        error("batteryz 100 60 5 2 50;", 1, 0);
+        error("100 60 5 2 50;", 1, 0);
+        error("battery 100 60 5 2 50 slots 3;", 1, 22);
         error("Battery 100 60 5 2 50;", 1, 0);
         error("batterY 100 60 5 2 50;", 1, 0);
         error("batteryY 100 60 5 2 50;", 1, 7);
@@ -208,6 +217,8 @@ public final class SetupTest {
         error(BATTERY + "mode strict 5;", 1, 34);
         error(BATTERY + "mode value;", 1, 32);
         error(BATTERY + "mode on;", 1, 27);
+        error(BATTERY + "mode;", 1, 26);
+        error(BATTERY + "reserve 5 slots 3;", 1, 32);
         error(BATTERY + "mode 1;", 1, 27);
         error(BATTERY + "device 1 2;", 1, 32);
         error(BATTERY + "devices 1 2 3;", 1, 22);
