@@ -1,5 +1,7 @@
 import java.nio.charset.StandardCharsets;
+import java.util.ArrayList;
 import java.util.Arrays;
+import java.util.List;
 
 /** What the tests share: comparing answers, loading a setup, and the exit code. */
 final class Checks {
@@ -68,6 +70,46 @@ final class Checks {
         for (int k = 0; k + 2 < blocks.length; k += 3) {
             due("filling", planner.write(blocks[k], blocks[k + 1], blocks[k + 2]), true);
         }
+    }
+
+    static void accepted(String text) {
+        loaded(text, NOTHING, 0, FlushPlanner.NONE);
+    }
+
+    static void refused(String text, int code, int position) {
+        loaded(text, ARGUMENT, code, position);
+    }
+
+    private static void loaded(String text, String thrown, int code, int position) {
+        FlushPlanner x = new FlushPlanner();
+        append(x, text);
+        dueThrow("load of " + text, thrown, x::load);
+        due("errorCode of " + text, x.errorCode(), code);
+        due("errorPosition of " + text, x.errorPosition(), position);
+    }
+
+    /** Everything that a caller can see without changing it, but for the text buffer and the saved states. */
+    static List<Object> picture(FlushPlanner x) {
+        List<Object> all = new ArrayList<>(List.of(x.errorCode(), x.errorPosition()));
+        for (int k = 0; k < 9; k++) {
+            all.add(x.report(k));
+        }
+        for (int k = 0; k < 7; k++) {
+            all.add(x.total(k));
+        }
+        for (int d = 0; d < x.report(5); d++) {
+            for (int k = 0; k < 7; k++) {
+                all.add(x.device(d, k));
+            }
+        }
+        for (int b = 0; b < x.report(4); b++) {
+            for (int k = 0; k < 4; k++) {
+                all.add(x.block(b, k));
+            }
+        }
+        all.add(x.minutesToSafety());
+        all.add(x.minutesLeft());
+        return all;
     }
 
     static void finish(String test) {

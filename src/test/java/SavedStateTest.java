@@ -1,4 +1,3 @@
-import java.util.ArrayList;
 import java.util.List;
 
 /** Promises 36 and 37: save and restore. */
@@ -22,29 +21,6 @@ public final class SavedStateTest {
         return x;
     }
 
-    private static List<Integer> picture(FlushPlanner x) {
-        List<Integer> all = new ArrayList<>();
-        for (int k = 0; k < 9; k++) {
-            all.add(x.report(k));
-        }
-        for (int k = 0; k < 7; k++) {
-            all.add(x.total(k));
-        }
-        for (int d = 0; d < x.report(5); d++) {
-            for (int k = 0; k < 7; k++) {
-                all.add(x.device(d, k));
-            }
-        }
-        for (int b = 0; b < x.report(4); b++) {
-            for (int k = 0; k < 4; k++) {
-                all.add(x.block(b, k));
-            }
-        }
-        all.add(x.minutesToSafety());
-        all.add(x.minutesLeft());
-        return all;
-    }
-
     private static void change(FlushPlanner x) {
         x.setMode(0, 0);
         x.write(1, 2, 25);
@@ -59,35 +35,35 @@ public final class SavedStateTest {
 
     private static void everythingComesBack() {
         FlushPlanner x = example();
-        List<Integer> before = picture(x);
+        List<Object> before = Checks.picture(x);
         x.save(0);
-        Checks.due("save changes nothing", picture(x), before);
+        Checks.due("save changes nothing", Checks.picture(x), before);
         change(x);
-        Checks.due("something is changed", picture(x).equals(before), false);
+        Checks.due("something is changed", Checks.picture(x).equals(before), false);
         x.restore(0);
-        Checks.due("all is back", picture(x), before);
+        Checks.due("all is back", Checks.picture(x), before);
         change(x);
         x.restore(0);
-        Checks.due("all is back again", picture(x), before);
+        Checks.due("all is back again", Checks.picture(x), before);
         x.advance(1);
         Checks.due("the age goes on", x.block(0, 3), 3);
     }
 
     private static void slotsAreApart() {
         FlushPlanner x = example();
-        List<Integer> first = picture(x);
+        List<Object> first = Checks.picture(x);
         x.save(1);
         change(x);
-        List<Integer> second = picture(x);
+        List<Object> second = Checks.picture(x);
         x.save(0);
         x.restore(1);
-        Checks.due("slot 1", picture(x), first);
+        Checks.due("slot 1", Checks.picture(x), first);
         x.restore(0);
-        Checks.due("slot 0", picture(x), second);
+        Checks.due("slot 0", Checks.picture(x), second);
         x.save(1);
         x.setPower(true);
         x.restore(1);
-        Checks.due("in place of what was saved", picture(x), second);
+        Checks.due("in place of what was saved", Checks.picture(x), second);
     }
 
     private static void whatIsNotSaved() {

@@ -157,113 +157,97 @@ public final class SetupTest {
     }
 
     private static void numbers() {
-        accepted("battery 1 0 0 1 1;");
-        accepted("battery 500 500 50 50 1000;");
-        accepted("battery 0500 0000 0050 01 0001;");
-        error("battery 0 0 0 1 1;", 2, 8);
-        error("battery 501 0 0 1 1;", 2, 8);
-        error("battery 50 51 0 1 1;", 2, 11);
-        error("battery 50 50 51 1 1;", 2, 14);
-        error("battery 50 50 50 0 1;", 2, 17);
-        error("battery 50 50 50 51 1;", 2, 17);
-        error("battery 50 50 50 50 0;", 2, 20);
-        error("battery 50 50 50 50 1001;", 2, 20);
-        accepted(BATTERY + "reserve 0;");
-        accepted(BATTERY + "reserve 200;");
-        error(BATTERY + "reserve 201;", 2, 30);
-        accepted(BATTERY + "slots 1;");
-        accepted(BATTERY + "slots 24;");
-        error(BATTERY + "slots 0;", 2, 28);
-        error(BATTERY + "slots 25;", 2, 28);
-        accepted(BATTERY + "mode value 1;");
-        error(BATTERY + "mode value 0;", 2, 33);
-        error(BATTERY + "mode value 100;", 2, 33);
-        error(BATTERY + "device 201 0 1;", 2, 29);
-        error(BATTERY + "device 200 51 1;", 2, 33);
-        error(BATTERY + "device 200 50 0;", 2, 36);
-        error(BATTERY + "device 200 50 51;", 2, 36);
-        error("battery 12345 0 0 1 1;", 1, 8);
-        error("battery 00001 0 0 1 1;", 1, 8);
+        Checks.accepted("battery 1 0 0 1 1;");
+        Checks.accepted("battery 500 500 50 50 1000;");
+        Checks.accepted("battery 0500 0000 0050 01 0001;");
+        Checks.refused("battery 0 0 0 1 1;", 2, 8);
+        Checks.refused("battery 501 0 0 1 1;", 2, 8);
+        Checks.refused("battery 50 51 0 1 1;", 2, 11);
+        Checks.refused("battery 50 50 51 1 1;", 2, 14);
+        Checks.refused("battery 50 50 50 0 1;", 2, 17);
+        Checks.refused("battery 50 50 50 51 1;", 2, 17);
+        Checks.refused("battery 50 50 50 50 0;", 2, 20);
+        Checks.refused("battery 50 50 50 50 1001;", 2, 20);
+        Checks.accepted(BATTERY + "reserve 0;");
+        Checks.accepted(BATTERY + "reserve 200;");
+        Checks.refused(BATTERY + "reserve 201;", 2, 30);
+        Checks.accepted(BATTERY + "slots 1;");
+        Checks.accepted(BATTERY + "slots 24;");
+        Checks.refused(BATTERY + "slots 0;", 2, 28);
+        Checks.refused(BATTERY + "slots 25;", 2, 28);
+        Checks.accepted(BATTERY + "mode value 1;");
+        Checks.refused(BATTERY + "mode value 0;", 2, 33);
+        Checks.refused(BATTERY + "mode value 100;", 2, 33);
+        Checks.refused(BATTERY + "device 201 0 1;", 2, 29);
+        Checks.refused(BATTERY + "device 200 51 1;", 2, 33);
+        Checks.refused(BATTERY + "device 200 50 0;", 2, 36);
+        Checks.refused(BATTERY + "device 200 50 51;", 2, 36);
+        Checks.refused("battery 12345 0 0 1 1;", 1, 8);
+        Checks.refused("battery 00001 0 0 1 1;", 1, 8);
     }
 
     private static void tokens() {
-        accepted("battery100 60 5 2 50;slots3;mode value20;device1 2 3;");
-        accepted("\n battery\n100 60 5 2 50 ;");
-        error("", 1, 0);
-        error("  \n", 1, 3);
-        error("battery", 1, 7);
-        error("battery 100 60 5 2 50", 1, 21);
-        error("battery 100 60 5 2 50  ", 1, 23);
-        error("battery 100 60 5 2;", 1, 18);
-        error("battery 100 60 5 2 50 7;", 1, 22);
-        error("batter 100 60 5 2 50;", 1, 0);
-        error("batterys 100 60 5 2 50;", 1, 0);
-        error("batteryz 100 60 5 2 50;", 1, 0);
-        error("100 60 5 2 50;", 1, 0);
-        error("battery 100 60 5 2 50 slots 3;", 1, 22);
-        error("Battery 100 60 5 2 50;", 1, 0);
-        error("batterY 100 60 5 2 50;", 1, 0);
-        error("batteryY 100 60 5 2 50;", 1, 7);
-        error("battery -1 60 5 2 50;", 1, 8);
-        error("battery 100\t60 5 2 50;", 1, 11);
-        error("battery 100 60 5 2 50;;", 1, 22);
-        error(BATTERY + "\u0000", 1, 22);
-        error(BATTERY + "\u00ff", 1, 22);
-        error(BATTERY + "7", 1, 22);
-        error(BATTERY + "battery", 1, 22);
-        error(BATTERY + "reserve", 1, 29);
-        error(BATTERY + "reserve 5 5;", 1, 32);
-        error(BATTERY + "reserve slots;", 1, 30);
-        error(BATTERY + "mode strict 5;", 1, 34);
-        error(BATTERY + "mode value;", 1, 32);
-        error(BATTERY + "mode on;", 1, 27);
-        error(BATTERY + "mode;", 1, 26);
-        error(BATTERY + "reserve 5 slots 3;", 1, 32);
-        error(BATTERY + "mode 1;", 1, 27);
-        error(BATTERY + "device 1 2;", 1, 32);
-        error(BATTERY + "devices 1 2 3;", 1, 22);
-        error(BATTERY + "device 1 2 3; slots 5;", 1, 36);
+        Checks.accepted("battery100 60 5 2 50;slots3;mode value20;device1 2 3;");
+        Checks.accepted("\n battery\n100 60 5 2 50 ;");
+        Checks.refused("", 1, 0);
+        Checks.refused("  \n", 1, 3);
+        Checks.refused("battery", 1, 7);
+        Checks.refused("battery 100 60 5 2 50", 1, 21);
+        Checks.refused("battery 100 60 5 2 50  ", 1, 23);
+        Checks.refused("battery 100 60 5 2;", 1, 18);
+        Checks.refused("battery 100 60 5 2 50 7;", 1, 22);
+        Checks.refused("batter 100 60 5 2 50;", 1, 0);
+        Checks.refused("batterys 100 60 5 2 50;", 1, 0);
+        Checks.refused("batteryz 100 60 5 2 50;", 1, 0);
+        Checks.refused("100 60 5 2 50;", 1, 0);
+        Checks.refused("battery 100 60 5 2 50 slots 3;", 1, 22);
+        Checks.refused("Battery 100 60 5 2 50;", 1, 0);
+        Checks.refused("batterY 100 60 5 2 50;", 1, 0);
+        Checks.refused("batteryY 100 60 5 2 50;", 1, 7);
+        Checks.refused("battery -1 60 5 2 50;", 1, 8);
+        Checks.refused("battery 100\t60 5 2 50;", 1, 11);
+        Checks.refused("battery 100 60 5 2 50;;", 1, 22);
+        Checks.refused(BATTERY + "\u0000", 1, 22);
+        Checks.refused(BATTERY + "\u00ff", 1, 22);
+        Checks.refused(BATTERY + "7", 1, 22);
+        Checks.refused(BATTERY + "battery", 1, 22);
+        Checks.refused(BATTERY + "reserve", 1, 29);
+        Checks.refused(BATTERY + "reserve 5 5;", 1, 32);
+        Checks.refused(BATTERY + "reserve slots;", 1, 30);
+        Checks.refused(BATTERY + "mode strict 5;", 1, 34);
+        Checks.refused(BATTERY + "mode value;", 1, 32);
+        Checks.refused(BATTERY + "mode on;", 1, 27);
+        Checks.refused(BATTERY + "mode;", 1, 26);
+        Checks.refused(BATTERY + "reserve 5 slots 3;", 1, 32);
+        Checks.refused(BATTERY + "mode 1;", 1, 27);
+        Checks.refused(BATTERY + "device 1 2;", 1, 32);
+        Checks.refused(BATTERY + "devices 1 2 3;", 1, 22);
+        Checks.refused(BATTERY + "device 1 2 3; slots 5;", 1, 36);
     }
 
     private static void repeatedSettings() {
-        accepted(BATTERY + "mode off;reserve 1;slots 3;");
-        error(BATTERY + "mode off;mode off;", 3, 31);
-        error(BATTERY + "slots 5;slots 0;", 3, 30);
-        error(BATTERY + "reserve 5; mode off; reserve", 3, 43);
-        error(BATTERY + "mode off;reserve 1;slots 3;slots 3;", 3, 49);
-        error(BATTERY + "slots 3; device 1 2 3; slots 3;", 1, 45);
+        Checks.accepted(BATTERY + "mode off;reserve 1;slots 3;");
+        Checks.refused(BATTERY + "mode off;mode off;", 3, 31);
+        Checks.refused(BATTERY + "slots 5;slots 0;", 3, 30);
+        Checks.refused(BATTERY + "reserve 5; mode off; reserve", 3, 43);
+        Checks.refused(BATTERY + "mode off;reserve 1;slots 3;slots 3;", 3, 49);
+        Checks.refused(BATTERY + "slots 3; device 1 2 3; slots 3;", 1, 45);
     }
 
     private static void tooManyDevices() {
         String five = BATTERY + "device 1 2 3;device 1 2 3;device 1 2 3;device 1 2 3;device 1 2 3;";
-        accepted(five);
-        error(five + "device 1 2 3;", 4, five.length());
-        error(five + " device", 4, five.length() + 1);
-        error(five + "devices", 1, five.length());
-        error(five + "slots", 1, five.length());
+        Checks.accepted(five);
+        Checks.refused(five + "device 1 2 3;", 4, five.length());
+        Checks.refused(five + " device", 4, five.length() + 1);
+        Checks.refused(five + "devices", 1, five.length());
+        Checks.refused(five + "slots", 1, five.length());
     }
 
     private static void orderOfErrors() {
-        error("battery 501 ?", 2, 8);
-        error("battery 100 101 51 0 0", 2, 12);
-        error(BATTERY + "mode off;mode ?", 3, 31);
-        error("battery 99999", 1, 8);
-    }
-
-    private static void accepted(String text) {
-        FlushPlanner x = new FlushPlanner();
-        Checks.append(x, text);
-        Checks.dueThrow("load of " + text, Checks.NOTHING, x::load);
-        Checks.due("errorCode of " + text, x.errorCode(), 0);
-        Checks.due("errorPosition of " + text, x.errorPosition(), FlushPlanner.NONE);
-    }
-
-    private static void error(String text, int code, int position) {
-        FlushPlanner x = new FlushPlanner();
-        Checks.append(x, text);
-        Checks.dueThrow("load of " + text, Checks.ARGUMENT, x::load);
-        Checks.due("errorCode of " + text, x.errorCode(), code);
-        Checks.due("errorPosition of " + text, x.errorPosition(), position);
+        Checks.refused("battery 501 ?", 2, 8);
+        Checks.refused("battery 100 101 51 0 0", 2, 12);
+        Checks.refused(BATTERY + "mode off;mode ?", 3, 31);
+        Checks.refused("battery 99999", 1, 8);
     }
 
     private static Object restored(FlushPlanner x, int slot) {
